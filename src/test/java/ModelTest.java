@@ -188,6 +188,27 @@ public final class ModelTest {
         }
     }
 
+    /** Few long TALES, so that codes that are read two ways late, or never, come up often. */
+    private static void codes(int sets) {
+        for (run = 0; run < sets; run++) {
+            x = new DeafWall();
+            m = new Model();
+            StringBuilder s = new StringBuilder();
+            for (int k = 2 + pick(5); k > 0; k--) {
+                s.append("tale");
+                for (int i = 2 + pick(5); i > 0; i--) s.append(" " + pick(2));
+                s.append(";");
+            }
+            wallText = s.toString();
+            tape(wallText);
+            same("text", x.text(0, -1), m.text(0, -1));
+            same("code", x.code(0), m.code(0));
+            seenCodes.add(x.code(0));
+        }
+    }
+
+    private static final java.util.TreeSet<Integer> seenCodes = new java.util.TreeSet<>();
+
     public static void main(String[] args) {
         int runs = args.length > 0 ? Integer.parseInt(args[0]) : 400;
         for (run = 0; run < runs; run++) {
@@ -204,6 +225,8 @@ public final class ModelTest {
                 else askDear();
             }
         }
+        codes(3 * runs);
+        Check.due("codes of many lengths, seen " + seenCodes, seenCodes.size() >= 12, true);
         Check.finish("ModelTest");
     }
 }
