@@ -112,7 +112,7 @@ public final class PromisesTest {
             "tale 1 1 1 1 1 1;", "dead 6 1; wall 8 1;", "wall 8 4;dead 31 9;source 31;feeler 31 9;", "dead0 1;dead 5 9;"};
         for (String text : fine) fault(0, text, 0, -1);
         Object[][] one = {{"wall", 4}, {"wall ", 5}, {"wall 3", 6}, {"wall 3 2", 8}, {"wall 3 2 \n", 10}, {"wall 3 2 1;", 9},
-            {"wall 32;", 7}, {"wall 100 2;", 5}, {"wall 3 002;", 7}, {"Wall 3 2;", 0}, {"walls 3 2;", 0}, {"wal 3 2;", 0},
+            {"wall 32;", 7}, {"wall 100 2;", 5}, {"wall 3 002;", 7}, {"Wall 3 2;", 0}, {"walls 3 2;", 0}, {"wallz 3 2;", 0}, {"zwall 3 2;", 0}, {"wal 3 2;", 0},
             {"wall 3 2;x", 9}, {"wall 3 2;;", 9}, {";", 0}, {"3", 0}, {"tale;", 4}, {"tale", 4}, {"tale 1", 6}, {"tale 1 x", 7},
             {"tale 0 0 0 0 0 0 0", 18}, {"play 1;", 0}, {"felt 0 0;", 0}, {"wall\t3 2;", 4}, {"wall 3-2;", 6}, {"wall ;", 5},
             {"source 1 2;", 9}, {"wall 9 9; source", 16}, {"wall 9 2; x", 10}, {"\u00e9", 0}, {"\0", 0}, {"wall 3 2;\r", 9}};
@@ -141,7 +141,7 @@ public final class PromisesTest {
     }
 
     private static void faultsOfDaysAndLogs() {
-        fault(1, "play 0;play 9;wet 31;dry 0;hush 5;touch 0;move 5 31;", 0, -1);
+        fault(1, "play 0;play 9;wet 31;wet 0;dry 31;dry 0;hush 5;touch 0;move 5 31;", 0, -1);
         Object[][] day = {{"play 10;", 2, 5}, {"wet 32;", 2, 4}, {"dry 32;", 2, 4}, {"hush 6;", 2, 5}, {"touch 6;", 2, 6},
             {"move 6 0;", 2, 5}, {"move 0 32;", 2, 7}, {"play;", 1, 4}, {"play 1 1;", 1, 7}, {"move 1;", 1, 6}, {"wall 3 2;", 1, 0},
             {"move 9 9;play", 1, 13}};
