@@ -37,7 +37,7 @@ public final class ModelTest {
         if (told) s.append("wall " + w + " " + h + ";"); else { w = 3; h = 2; }
         int cells = w * h, hard = 1 + pick(9);
         for (int k = pick(14); k > 0; k--) s.append("dead " + pick(cells) + " " + (1 + pick(hard)) + ";");
-        if (pick(3) != 0) s.append("source " + pick(cells) + ";");
+        for (int k = pick(3); k > 0; k--) s.append("source " + pick(cells) + ";");
         for (int k = pick(6) + pick(2); k > 0; k--) s.append("feeler " + pick(cells) + " " + (1 + pick(pick(4) == 0 ? 9 : 4)) + ";");
         for (int k = pick(6) + pick(2); k > 0; k--) {
             s.append("tale");
@@ -76,7 +76,7 @@ public final class ModelTest {
     }
 
     private static final String[] BITS = {" ", "\n", ";", "0", "1", "9", "31", "32", "5", "6", "20", "100", "wall", "dead",
-        "source", "feeler", "tale", "play", "wet", "dry", "hush", "touch", "move", "felt", "not", "a", "A", "\u00e9", "\t",
+        "source", "feeler", "tale", "play", "wet", "dry", "hush", "touch", "move", "felt", "not", "a", "z", "A", "\u00e9", "\t",
         "tale 1 0 1 0 1 0 1;", "tale 0 0 0 0 0 0 2;", "feeler 0 1;feeler 0 2;", "not 0 1;not 0 2;", "play 1;play 2;"};
 
     private static String spoil(String s) {

@@ -112,7 +112,7 @@ public final class PromisesTest {
             "tale 1 1 1 1 1 1;", "dead 6 1; wall 8 1;", "wall 8 4;dead 31 9;source 31;feeler 31 9;", "dead0 1;dead 5 9;"};
         for (String text : fine) fault(0, text, 0, -1);
         Object[][] one = {{"wall", 4}, {"wall ", 5}, {"wall 3", 6}, {"wall 3 2", 8}, {"wall 3 2 \n", 10}, {"wall 3 2 1;", 9},
-            {"wall 32;", 7}, {"wall 100 2;", 5}, {"wall 3 002;", 7}, {"Wall 3 2;", 0}, {"walls 3 2;", 0}, {"wallz 3 2;", 0}, {"zwall 3 2;", 0}, {"wal 3 2;", 0},
+            {"wall 32;", 7}, {"wall 100 2;", 5}, {"wall 3 002;", 7}, {"Wall 3 2;", 0}, {"walls 3 2;", 0}, {"wallz 3 2;", 0}, {"zwall 3 2;", 0}, {"tall 3 2;", 0}, {"wale 3 2;", 0}, {"wool 3 2;", 0}, {"wal 3 2;", 0},
             {"wall 3 2;x", 9}, {"wall 3 2;;", 9}, {";", 0}, {"3", 0}, {"tale;", 4}, {"tale", 4}, {"tale 1", 6}, {"tale 1 x", 7},
             {"tale 0 0 0 0 0 0 0", 18}, {"play 1;", 0}, {"felt 0 0;", 0}, {"wall\t3 2;", 4}, {"wall 3-2;", 6}, {"wall ;", 5},
             {"source 1 2;", 9}, {"wall 9 9; source", 16}, {"wall 9 2; x", 10}, {"\u00e9", 0}, {"\0", 0}, {"wall 3 2;\r", 9}};
@@ -164,6 +164,9 @@ public final class PromisesTest {
             {99, -1}, {-1, -1}, {MIN, -1}, {MAX, -1}, {132, -1}};
         for (int[] row : want) due("6 wall " + row[0], x.wall(0, row[0]), row[1]);
         due("6 none such", x.wall(1, 0), -1);
+        due("6 SOURCE 0 again", Check.take(x, 0, "source 4;source 0;dead 0 5;dead 0 1;"), 1);
+        due("6 SOURCE 0 again", x.wall(1, 2), 0);
+        due("6 DEAD 1 again", x.wall(1, 100), 1);
         due("6 none such", x.wall(-1, 0), -1);
     }
 
@@ -262,6 +265,12 @@ public final class PromisesTest {
         due("12 n", x.play(0, 0, 1, false), 5);
         due("12 which", x.play(0, 0, 1, true), 25);
         due("12 which", x.play(0, 0, 2, true), 63);
+        // a push is felt again two beats later, so four beats of rest want a push at 0 and one at 7; at 0, 2, 4 even at 9
+        start("feeler 0 3;feeler 0 1;tale 1 0 0 0 0 1;", null, null);
+        due("12 the longest", x.play(0, 0, 0, false), 8);
+        due("12 the longest, which", x.play(0, 0, 0, true), 129);
+        due("12 longer than any", x.play(0, 1, 0, false), -1);
+        due("12 longer than any, which", x.play(0, 1, 0, true), -1);
     }
 
     private static void promise13most() {
