@@ -90,14 +90,16 @@ public final class DeafWall {
     }
 
     public int text(int sort, int at) {
+        int length = told.length;
+        // every text() takes the tape, also one that reads no text
+        told.length = 0;
         told.fault = 0;
         told.place = NONE;
         int number = placeOf(sort, at);
         if (number == NONE) {
             return NO_SUCH;
         }
-        reader.read(told.tape, told.length, sort);
-        told.length = 0;
+        reader.read(told.tape, length, sort);
         if (reader.fault != 0) {
             told.fault = reader.fault;
             told.place = reader.faultPlace;

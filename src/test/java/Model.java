@@ -189,11 +189,11 @@ final class Model {
     int text(int sort, int at) {
         fault = 0;
         place = -1;
+        String s = new String(tape, java.nio.charset.StandardCharsets.ISO_8859_1);
+        tape = new byte[0];
         if (sort < 0 || sort > 2) return -2;
         int there = count(sort);
         if (at == -1 ? there == 2 : at < 0 || at >= there) return -2;
-        String s = new String(tape, java.nio.charset.StandardCharsets.ISO_8859_1);
-        tape = new byte[0];
         try {
             List<String> tokens = new ArrayList<>();
             List<Integer> places = new ArrayList<>();

@@ -61,22 +61,41 @@ public final class PromisesTest {
         due("3 feed", x.feed(1, 2, 3, 4, 5), 20);
     }
 
+    /** A text() that reads nothing takes the tape all the same, whatever is on it, and has no FAULT. */
+    private static void refused(String why, int sort, int at) {
+        for (String text : new String[] {"", "x", "wall 1 1;", "play 9;", " ".repeat(600)}) {
+            start("wall 4 4;", null, null);
+            due("4 second", Check.take(x, 0, "wall 5 1;"), 1);
+            Check.tape(x, text);
+            due("4 " + why + ": " + sort + ", " + at, x.text(sort, at), -2);
+            due("4 FAULT 0", x.fault(0), 0);
+            due("4 its place", x.fault(1), -1);
+            due("4 tape is empty", x.end(1), -1);
+            due("4 feed begins anew", x.feed(0, 0, 0, 0, 0), 20);
+            due("4 walls stay", x.count(0), 2);
+            due("4 the first wall stays", x.wall(0, 1), 4);
+            due("4 the second wall stays", x.wall(1, 0), 5);
+        }
+    }
+
     private static void promise4text() {
+        refused("too many", 0, -1);
+        refused("none such", 0, 2);
+        refused("none such", 0, -2);
+        refused("none such", 1, 0);
+        refused("none such", 2, MAX);
+        refused("no such sort", 3, -1);
+        refused("no such sort", -1, -1);
+        refused("no such sort", MIN, 0);
         x = new DeafWall();
         due("4 first", Check.take(x, 0, "wall 4 4;"), 0);
         due("4 tape is empty", x.end(1), -1);
         due("4 second", Check.take(x, 0, "wall 5 1;"), 1);
         Check.tape(x, "x");
+        due("4 an image of the tape", x.image(0), true);
         due("4 too many", x.text(0, -1), -2);
-        due("4 FAULT 0", x.fault(0), 0);
-        due("4 no text was read", x.end(1), 1);
-        due("4 none such", x.text(0, 2), -2);
-        due("4 none such", x.text(0, -2), -2);
-        due("4 none such", x.text(1, 0), -2);
-        due("4 no such sort", x.text(3, -1), -2);
-        due("4 no such sort", x.text(-1, -1), -2);
-        due("4 no such sort", x.text(MIN, 0), -2);
-        due("4 still on the tape", x.end(1), 1);
+        due("4 the image again", x.again(0), true);
+        due("4 has its tape", x.end(1), 1);
         due("4 a FAULT", x.text(0, 1), -1);
         due("4 FAULT 1", x.fault(0), 1);
         due("4 tape is empty", x.end(1), -1);
