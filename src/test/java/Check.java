@@ -5,13 +5,30 @@ import java.nio.charset.StandardCharsets;
 final class Check {
     private static int asked = 0;
     private static int wrong = 0;
+    /** The sentence of the document that is being tested, if any. */
+    private static String sentence = "";
 
     static void due(String call, long got, long want) {
         asked++;
-        if (got != want) {
-            wrong++;
-            if (wrong <= 50) System.out.println(call + " answered " + got + ", due is " + want);
+        if (got != want) tell(call + " answered " + got + ", due is " + want);
+    }
+
+    private static void tell(String what) {
+        wrong++;
+        if (wrong <= 50) System.out.println(sentence + what);
+    }
+
+    /** One test of one sentence: what is not as due is told with it; a call that throws fails this test alone. */
+    static void edge(String words, Runnable test) {
+        int before = asked;
+        sentence = "\"" + words + "\": ";
+        try {
+            test.run();
+        } catch (RuntimeException e) {
+            tell("threw " + e);
         }
+        if (asked == before) tell("asked nothing");
+        sentence = "";
     }
 
     static void due(String call, boolean got, boolean want) {

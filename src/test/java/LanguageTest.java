@@ -37,6 +37,8 @@ public final class LanguageTest {
             names.add(m.getName());
             rule("not static " + m, !Modifier.isStatic(m.getModifiers()));
         }
+        for (Method m : DeafWall.class.getDeclaredMethods())
+            if (Modifier.isPrivate(m.getModifiers())) rule("1 the name of a public one: " + m, m.isSynthetic() || !names.contains(m.getName()));
         Set<String> want = new TreeSet<>(Arrays.asList(FACE.split(" ")));
         rule("1 the face: " + got, got.equals(want));
         rule("1 final", Modifier.isFinal(DeafWall.class.getModifiers()) && Modifier.isPublic(DeafWall.class.getModifiers()));
