@@ -98,6 +98,8 @@ public final class EdgesOfDaysTest extends Edges {
             day("wall 1 1;feeler 0 1;feeler 0 1;tale 1 0;", "play 9;hush 0;play 9;play 9;touch 0;play 9;");
             states(new int[][] {{1, 20, 1}, {2, 20, 1}, {2, 40, 1}, {3, 20, 1}, {3, 30, 1}, {4, 40, 4}, {5, 40, 4}, {6, 40, 9}, {6, 20, 2},
                 {6, 21, 4}, {6, 31, 0}});
+            day("wall 1 1;" + "feeler 0 1;".repeat(6), "hush 1;hush 5;play 9;touch 5;play 9;");
+            states(new int[][] {{3, 20, 1}, {3, 21, 0}, {3, 22, 1}, {3, 24, 1}, {3, 25, 0}, {5, 21, 0}, {5, 25, 1}, {5, 20, 2}});
         });
         edge("move: a FEELER that is there has a CELL that is there", () -> {
             stops("feeler 0 1;", "move 0 5;move 0 5;move 0 6;", 2);
@@ -141,6 +143,18 @@ public final class EdgesOfDaysTest extends Edges {
             states(new int[][] {{40, 0, 40}, {41, 0, -2}, {39, 0, 39}});
             day("", "");
             states(new int[][] {{0, 0, 0}, {1, 0, -2}});
+        });
+        edge("A STATE, whatever was asked ahead of it", () -> {
+            day("wall 1 1;feeler 0 1;tale 1;", "play 9;wet 0;hush 0;play 8;");
+            due("another DAY", Check.take(x, 1, ""), 1);
+            for (int times = 0; times < 2; times++) {
+                states(new int[][] {{4, 0, 2}, {4, 1, 1}, {4, 2, 1}, {4, 20, 1}, {4, 30, 1}, {4, 40, 2}, {4, 100, 8}, {4, 200, 3}});
+                states(new int[][] {{0, 0, 0}, {0, 1, 0}, {0, 2, 0}, {0, 20, 0}, {0, 30, 0}, {0, 40, 0}, {0, 100, 0}, {0, 200, 2}});
+                due("after", x.after(0, 0, 3), 17);
+                due("of the other DAY", x.state(0, 1, 0, 30), 0);
+                due("after the other DAY, FIRST", x.after(0, 1, 0), -1);
+                due("after the other DAY, PUSHED", x.after(0, 1, 3), 0);
+            }
         });
         edge("Promise 9: 0: beats gone by", () -> {
             day("feeler 0 1;", "hush 0;wet 0;move 0 1;play 0;touch 0;play 9;");
@@ -307,6 +321,7 @@ public final class EdgesOfDaysTest extends Edges {
             after("wall 1 1;feeler 0 9;feeler 0 1;feeler 0 1;", "play 8;", 0, 0, 1);
             after("wall 1 1;feeler 0 9;feeler 0 1;feeler 0 1;", "play 9;", 0, 0, 0);
             after("wall 1 1;feeler 0 9;feeler 0 1;", "play 9;play 8;", 0, 0, 1);
+            after("wall 1 1;feeler 0 1;feeler 0 9;", "play 9;play 8;", 0, 0, 0);
         });
         edge("PUSHED: all pushes together", () -> {
             after("", "", -1, -1, -1, 0);

@@ -190,6 +190,10 @@ public final class EdgesOfTextsTest extends Edges {
         if (numbers > 1) fault(sort, word + " 1;", 1, word.length() + 2);
         if (!word.equals("tale")) fault(sort, all + " 1;", 1, all.length() + 1);
         for (int other = 0; other < 3; other++) if (other != sort) fault(other, all + ";", 1, 0);
+        for (int k = 0; k < word.length(); k++) {
+            fault(sort, all.substring(0, k) + 'q' + all.substring(k + 1) + ";", 1, 0);
+            if (k > 0) fault(sort, all.substring(0, k) + " " + all.substring(k) + ";", 1, 0);
+        }
     }
 
     private static void lines() {
@@ -541,6 +545,32 @@ public final class EdgesOfTextsTest extends Edges {
                 due("the second stays", x.wall(1, 0), 3);
             }
         });
+        edge("Promise 4: a text is read by itself, whatever earlier ones told", () -> {
+            x = new DeafWall();
+            for (int times = 0; times < 3; times++) {
+                int at = times < 2 ? -1 : 1, number = Math.min(times, 1);
+                Check.tape(x, "wall 8 4;source 31;dead 30 9;" + "feeler 31 1;".repeat(6) + "tale 1;".repeat(6));
+                due("a full WALL", x.text(0, at), number);
+                Check.tape(x, "play 9;".repeat(40));
+                due("a full DAY", x.text(1, at), number);
+                Check.tape(x, "not 0 0;".repeat(8));
+                due("a full LOG", x.text(2, at), number);
+                due("a WALL of a CELL that is not there", Check.take(x, 0, "source 6;"), times == 0 ? -1 : -2);
+            }
+            Check.tape(x, "tale 0;");
+            due("a small WALL", x.text(0, 1), 1);
+            int[][] want = {{0, 3}, {1, 2}, {2, 0}, {3, 0}, {4, 1}, {30, 1}, {40, 0}, {10, -1}, {31, -1}, {100, 2}, {105, 2}, {106, -1}};
+            for (int[] row : want) due("wall 1 " + row[0], x.wall(1, row[0]), row[1]);
+            due("the other one stays", x.wall(0, 2), 31);
+            Check.tape(x, "wet 3;");
+            due("a small DAY", x.text(1, 1), 1);
+            due("DEEDS", x.deed(1, -1, 0), 1);
+            due("the other DAY", x.deed(0, -1, 0), 40);
+            Check.tape(x, "felt 3 4;");
+            due("a small LOG", x.text(2, 0), 0);
+            due("FACTS", x.fact(0, -1, 0), 1);
+            due("the other LOG", x.fact(1, -1, 0), 8);
+        });
         edge("Promise 4: an empty tape is a text", () -> {
             for (int sort = 0; sort < 3; sort++) fine(sort, "");
         });
@@ -637,6 +667,24 @@ public final class EdgesOfTextsTest extends Edges {
                     due("count", x.count(sort), Math.min(n, 2));
                     x.text(sort, -1);
                 }
+        });
+        edge("Promises 6, 7, 18: of two, each by its number, no third", () -> {
+            x = new DeafWall();
+            for (int k = 1; k < 3; k++) {
+                Check.take(x, 0, "wall " + k + " 1;");
+                Check.take(x, 1, "play " + k + ";");
+                Check.take(x, 2, "felt " + k + " 0;");
+            }
+            for (int k = 0; k < 2; k++) {
+                due("wall " + k, x.wall(k, 0), k + 1);
+                due("deed " + k, x.deed(k, 0, 1), k + 1);
+                due("fact " + k, x.fact(k, 0, 1), k + 1);
+            }
+            due("wall 2", x.wall(2, 0), -1);
+            due("deed 2", x.deed(2, 0, 1), -2);
+            due("deeds of 2", x.deed(2, -1, 0), -2);
+            due("fact 2", x.fact(2, 0, 1), -2);
+            due("facts of 2", x.fact(2, -1, 0), -2);
         });
         edge("Promise 33: -2 for another one", () -> {
             x = new DeafWall();

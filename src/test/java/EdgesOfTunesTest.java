@@ -43,7 +43,7 @@ public final class EdgesOfTunesTest extends Edges {
         });
         edge("TOLD by a TUNE: nothing ahead of beat 0 counts", () -> {
             wall("wall 1 1;feeler 0 9;tale 0 1;");
-            tunes(new int[][] {{1, 1, 30, 0}, {2, 2, 30, 1}, {2, 3, 30, 0}});
+            tunes(new int[][] {{1, 1, 30, 0}, {2, 2, 30, 1}, {2, 3, 30, 0}, {3, 6, 30, 1}});
         });
         edge("Promise 10: what 0 .. 19, 30 + f, 40; -2 for another what", () -> {
             wall("wall 1 1;" + "feeler 0 1;".repeat(6) + "tale 1;".repeat(6));
@@ -81,6 +81,19 @@ public final class EdgesOfTunesTest extends Edges {
             reaches(0, 9, 8);
             reaches(1, -1, -1);
             reaches(2, 9, 7);
+        });
+        edge("Of two WALLS, each by itself", () -> {
+            wall("wall 3 1;feeler 0 3;");
+            due("another WALL", Check.take(x, 0, "wall 3 1;source 2;feeler 0 3;"), 1);
+            for (int times = 0; times < 2; times++) {
+                reaches(0, 3, 0);
+                due("tune", x.tune(0, 1, 1, 40), x.tune(1, 1, 1, 40));
+                due("reach", x.reach(1, 0, false), 7);
+                due("when", x.reach(1, 0, true), 2);
+                due("loud", x.loud(1, 1, false), 1);
+                due("loud", x.loud(0, 1, false), 2);
+                due("no third", x.reach(2, 0, false), -1);
+            }
         });
         edge("Promise 11: NONE: of none", () -> {
             wall("wall 2 1;dead 1 9;feeler 1 1;");
@@ -168,6 +181,9 @@ public final class EdgesOfTunesTest extends Edges {
             mosts(5, 0, 0);
             mosts(6, 1, 63);
             mosts(8, 1, 63);
+            wall("wall 1 1;feeler 0 9;tale 0 1;");
+            mosts(1, 0, 0);
+            mosts(2, 1, 2);
         });
         edge("MOST without FEELERS, without TALES", () -> {
             wall("tale 0;");
@@ -220,6 +236,8 @@ public final class EdgesOfTunesTest extends Edges {
             for (int n = 1; n <= 4; n++) duets(0, 1, n, 0, 0);
             duets(0, 2, 1, 0, 0);
             duets(2, 0, 1, 1, 3);
+            wall(DEAF);
+            for (int n = 4; n > 0; n--) duets(0, 1, n, -(n / 2), 0);
         });
         edge("Promise 14: (NONE: n is 0)", () -> {
             wall(DEAF);

@@ -97,6 +97,9 @@ public final class EdgesOfWallsTest extends Edges {
             shades(2, 0);
             wall("wall 2 2;source 1;");
             shades(2, 2);
+            wall("wall 2 1;");
+            shades(2, 1);
+            shades(3, 2);
         });
         edge("DEADEST: of several the least; all DEADS together", () -> {
             wall("wall 8 4;");
@@ -113,6 +116,9 @@ public final class EdgesOfWallsTest extends Edges {
             wall("wall 1 1;dead 0 1;");
             shades(4, 0);
             shades(5, 1);
+            wall("wall 2 1;dead 1 9;");
+            shades(4, 1);
+            shades(5, 11);
         });
         edge("TENDEREST: of several the least (none: none)", () -> {
             wall("");
@@ -121,6 +127,8 @@ public final class EdgesOfWallsTest extends Edges {
             shades(6, 0);
             wall("feeler 0 9;feeler 0 1;feeler 0 1;");
             shades(6, 1);
+            wall("feeler 0 1;feeler 0 9;");
+            shades(6, 0);
             wall("feeler 0 9;".repeat(5) + "feeler 0 8;");
             shades(6, 5);
         });

@@ -4,7 +4,8 @@ import java.util.function.IntPredicate;
 
 /**
  * Every argument of every question: where it strays from what may be, the answer is the refusal that the document names;
- * at the edges of what may be, the answers are those of the model. In four objects: new, all texts empty, small, full.
+ * at the edges of what may be, the answers are those of the model, in any order. In four objects: new, all texts empty,
+ * small, full.
  */
 public final class StraysTest {
     private interface Ask<T> { long of(T object, int[] arguments); }
@@ -14,6 +15,7 @@ public final class StraysTest {
         final String name;
         final DeafWall wall = new DeafWall();
         final Model model = new Model();
+        final List<Asked> asked = new ArrayList<>();
         int walls, days, logs, cells, feelers, tales, deeds, facts, stop;
 
         Scene(String name, String... texts) {
@@ -178,10 +180,29 @@ public final class StraysTest {
         }
     }
 
+    /** One call with the answer that the model gave. */
+    private static final class Asked {
+        final Question question;
+        final int[] arguments;
+        final long want;
+
+        Asked(Question question, int[] arguments, long want) {
+            this.question = question;
+            this.arguments = arguments;
+            this.want = want;
+        }
+
+        void again(Scene s) {
+            Check.due(call(s, question, arguments), question.asked.of(s.wall, arguments), want);
+        }
+    }
+
     /** All values at the edges, each with each. Two WALLS, DAYS, LOGS may be unlike: the model says what is due. */
     private static void edges(Scene s, Question q, int k, int[] a) {
         if (k == a.length) {
-            Check.due(call(s, q, a), q.asked.of(s.wall, a), q.due.of(s.model, a));
+            Asked asked = new Asked(q, a.clone(), q.due.of(s.model, a));
+            asked.again(s);
+            s.asked.add(asked);
             return;
         }
         for (int value : q.domains[k].edges) {
@@ -205,6 +226,9 @@ public final class StraysTest {
                 Check.edge(s.name + ", " + q.name + ", strays", () -> stray(s, q));
                 Check.edge(s.name + ", " + q.name + ", edges", () -> edges(s, q, 0, new int[q.domains.length]));
             }
+            // no answer hangs on what was asked ahead of it
+            java.util.Collections.shuffle(s.asked, new java.util.Random(11));
+            Check.edge(s.name + ", all again, in another order", () -> s.asked.forEach(one -> one.again(s)));
         }
         Check.finish("StraysTest");
     }
