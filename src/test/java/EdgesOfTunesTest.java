@@ -349,6 +349,8 @@ public final class EdgesOfTunesTest extends Edges {
         edge("CODE: else how long the shortest row is that is so in two", () -> {
             codes("tale 0;tale 0 0;", 2);
             codes("tale 0 0;tale 0 0 0;", 5);
+            codes("tale 0 0 0;tale 0;", 3);
+            codes("tale 0 0 0 0 0;tale 0 0;", 7);
             codes("tale 0 0 0 0 0;tale 0 0 0 0 0 0;", 11);
             codes("tale 0 0 0 0 0 0;tale 0 0 0 0;", 10);
             codes("tale 0;tale 0 1;tale 1 0;tale 1 1 1 1 1 1;tale 1 1 1 1 1 1;", 3);
